@@ -1000,13 +1000,13 @@ public final class RavelKnit {
                 put(ways, i, 0L);
             }
             put(ways, from, 1L);
-            for (int said = 0; said <= lies; said++) {
-                for (int told = 0; told <= trues; told++) {
-                    if (said > 0) {
-                        raise(told * HEIGHTS);
+            for (int liesSaid = 0; liesSaid <= lies; liesSaid++) {
+                for (int truesSaid = 0; truesSaid <= trues; truesSaid++) {
+                    if (liesSaid > 0) {
+                        raise(truesSaid * HEIGHTS);
                     }
-                    if (told > 0) {
-                        addDropped((told - 1) * HEIGHTS, told * HEIGHTS);
+                    if (truesSaid > 0) {
+                        addDropped((truesSaid - 1) * HEIGHTS, truesSaid * HEIGHTS);
                     }
                 }
             }
@@ -1033,7 +1033,6 @@ public final class RavelKnit {
         private static final int HEIGHTS = MOST_ROWS + MOST_AHEAD + MOST_REMARKS + 1;
 
         private final long[] shares = new long[HEIGHTS];
-        private final long[] next = new long[HEIGHTS];
 
         void play(int from, int remarks, int tenths) {
             for (int rows = 0; rows < HEIGHTS; rows++) {
@@ -1046,17 +1045,13 @@ public final class RavelKnit {
         }
 
         private void step(int tenths) {
+            long below = 0;
             for (int rows = 0; rows < HEIGHTS; rows++) {
-                put(next, rows, 0L);
-            }
-            for (int rows = 0; rows < HEIGHTS; rows++) {
-                long share = at(shares, rows);
-                int below = Math.max(0, rows - 1);
-                put(next, below, at(next, below) + share * tenths);
-                put(next, rows + 1, at(next, rows + 1) + share * (TENTHS - tenths));
-            }
-            for (int rows = 0; rows < HEIGHTS; rows++) {
-                put(shares, rows, at(next, rows));
+                long here = at(shares, rows);
+                // Of no rows none can go: what was there stays.
+                long falling = at(shares, rows + 1) + (rows == 0 ? here : 0);
+                put(shares, rows, below * (TENTHS - tenths) + falling * tenths);
+                below = here;
             }
         }
 

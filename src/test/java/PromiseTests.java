@@ -70,7 +70,7 @@ public final class PromiseTests {
     }
 
     private static RavelKnit full() {
-        return Check.knitted("..............................");
+        return Check.knitted(".".repeat(30));
     }
 
     private static void promise1() {
@@ -104,6 +104,7 @@ public final class PromiseTests {
         is("facts(8)", x.facts(8), 8);
         x.fact(7, true);
         Check.knit(x, "Aa+.Bb+");
+        x.temper(0, 1);
         x.temper(5, 2);
         x.width(7);
         x.seen(1, 1);
@@ -115,7 +116,8 @@ public final class PromiseTests {
         }
         is("facts(8), as many as there were", x.facts(8), 8);
         is("so", x.told(2), 0);
-        is("temper", x.told(15), 0);
+        is("temper of A", x.told(10), 0);
+        is("temper of F", x.told(15), 0);
         is("rows", x.told(3), 0);
         is("width", x.told(4), 20);
         is("sights", x.told(5), 0);
@@ -338,6 +340,13 @@ public final class PromiseTests {
         Check.pad(x, "Aa-Aa-.");
         is("now is the highest", x.behind(3), 3);
         is("two are lost", x.behind(2), 1);
+        Check.pad(x, "Aa-.");
+        is("the first remark is the lowest", x.behind(2), 2);
+        Check.pad(x, ".Aa-Aa-");
+        is("the last remark is the lowest", x.behind(2), 2);
+        is("the first remark is the highest", x.behind(3), 4);
+        Check.pad(x, "Aa-..");
+        is("the last remark is the highest", x.behind(3), 4);
         Check.pad(x, "...");
         is("all are kept", x.behind(2), 3);
         is("rows of both", x.behind(0), 6);
@@ -345,6 +354,10 @@ public final class PromiseTests {
         for (int what : new int[] {4, -1, LEAST, MOST}) {
             is("behind(" + what + ")", x.behind(what), OUTSIDE);
         }
+        x = new RavelKnit();
+        Check.pad(x, "!.".repeat(30));
+        is("the 60th remark is the highest", x.behind(3), 1);
+        is("60 remarks", x.done(), 60);
     }
 
     private static void rows(RavelKnit x, String evening, String due) {
@@ -396,6 +409,9 @@ public final class PromiseTests {
         is("lost(2) behind others", x.lost(2), 5);
         is("lost(1) stays", x.lost(1), NONE);
         is("lost(0) stays", x.lost(0), NONE);
+        Check.pad(x, "Aa-Aa-");
+        is("lost(3) by the first", x.lost(3), 0);
+        is("lost(2) by the last", x.lost(2), 1);
         for (int row : new int[] {4, -1, LEAST, MOST}) {
             is("lost(" + row + ")", x.lost(row), UNKNOWN);
         }
@@ -525,20 +541,24 @@ public final class PromiseTests {
         made(x, "AA", 2, NONE);
         made(x, "AAA", 1, NONE);
         made(x, "AAAA*", 4, NONE);
+        Check.knit(x, "Aa+");
+        made(x, "A", 2, NONE);
+        made(x, "ABC", 4, NONE);
+        made(x, "AAAA", 1, NONE);
         Check.pad(x, "Aa");
         is("made() of a fault", x.made(), NO);
-        Check.pad(x, "mmmmmmmmmmmmmmmmmmmmmmmmmmmmmmm");
+        Check.pad(x, "m".repeat(31));
         String before = Check.seen(x);
         refused("made() of 31 rows", x, x.made(), FULL, before);
         x.say('*');
         is("NO ahead of FULL", x.made(), NO);
-        Check.pad(x, "AA*A*A*A*A*A*A*A*A*A*A*A*A*A*A*A*A*A*A*A*A*A*A*A*A*A*A*A*A*");
-        is("made() of 30 rows, of 59 signs", new RavelKnit().made() + x.made(), 31);
+        Check.pad(x, "A" + "A*".repeat(29));
+        is("made() of 30 rows, of 59 signs", x.made(), 1 + 30);
     }
 
     private static void promise15pauses() {
         check.part("promise 15, pauses and width");
-        String thirty = "AAAAAAAAAAAAAAAAAAAAAAAAAAAAAA";
+        String thirty = "A".repeat(30);
         RavelKnit x = new RavelKnit();
         Check.pad(x, thirty);
         is("19 pauses by time, 10 by moss", x.made(), 30 + 19 + 20);
@@ -607,7 +627,7 @@ public final class PromiseTests {
         Check.pad(x, "A+");
         String before = Check.seen(x);
         refused("bars() of a fault", x, x.bars(), NO, before);
-        Check.pad(x, "A*mmmmmmmmmmmmmmmmmmmmmmmmmmmmmm");
+        Check.pad(x, "A*" + "m".repeat(30));
         before = Check.seen(x);
         refused("bars() of 31 rows", x, x.bars(), FULL, before);
         x.say('*');
@@ -704,6 +724,20 @@ public final class PromiseTests {
         worlds(x, 0, NONE, 0, 0);
         Check.pad(x, "Aa+Ab-");
         worlds(x, 4, 1, 1, 13);
+        x = Check.knitted("..");
+        Check.say(x, "?".repeat(40) + "!".repeat(19) + ".");
+        x.width(40);
+        worlds(x, 0, NONE, 0, 0);
+        is("a stitch is short", x.judge(0), 59);
+        x.width(40);
+        Check.pad(x, "!".repeat(62));
+        is("the pad is full", x.told(0), 60);
+        x.seen(60, 0);
+        worlds(x, 16, 0, 0, 15);
+        x.seen(0, 2);
+        worlds(x, 16, 0, 0, 15);
+        x.seen(60, 1);
+        worlds(x, 0, NONE, 0, 0);
     }
 
     private static void promise20() {
@@ -721,6 +755,9 @@ public final class PromiseTests {
         Check.say(x, "Ac+");
         is("tell(0), of no world", x.tell(0), NONE);
         is("tell(1), of no world", x.tell(1), NONE);
+        Check.pad(x, "Aa+");
+        is("tell(0), the least that is open", x.tell(0), 1);
+        is("tell(1)", x.tell(1), 4);
         Check.pad(x, "Ba+Bb+");
         x.seen(2, 1);
         is("worlds where a is so and b is not", x.worlds(0), 4);
@@ -885,6 +922,9 @@ public final class PromiseTests {
         x.width(0);
         is("nothing bars", x.over(0, 0, 50, 1, 1), NONE);
         is("nothing bars", x.over(0, 0, 40, 1, 1), 37);
+        x = full();
+        is("over(12, 10, 50, 1, 1)", x.over(12, 10, 50, 1, 1), 32);
+        is("over(12, 0, 50, 1, 1)", x.over(12, 0, 50, 1, 1), 8);
         is("over(13, ..)", x.over(13, 1, 1, 1, 1), OUTSIDE);
         is("over(-1, ..)", x.over(-1, 1, 1, 1, 1), OUTSIDE);
         is("over(1, 11, ..)", x.over(1, 11, 1, 1, 1), OUTSIDE);
@@ -953,7 +993,20 @@ public final class PromiseTests {
         Check.pad(x, "A");
         is("the pad does not matter", x.draws(0, 2, 0), 1);
         x = new RavelKnit();
-        is("draws(9999, 99, 0)", x.draws(9999, 99, 0) >= 0 ? 1 : 0, 1);
+        x.fact(0, true);
+        x.fact(2, true);
+        drawn(x, 5, 40, 1, 14, 15);
+        drawn(x, 1, 7, 3, 3, 18);
+        drawn(x, 7, 12, 1, 5, 19);
+        drawn(x, 100, 25, 10, 17, 19);
+        drawn(x, 2026, 60, 20, 35, 12);
+        drawn(x, 9999, 99, 4, 40, 7);
+        x.facts(3);
+        x.fact(0, true);
+        x.fact(2, true);
+        drawn(x, 100, 25, 4, 12, 19);
+        drawn(x, 9999, 99, 3, 45, 7);
+        drawn(x, 4711, 33, 4, 18, 18);
         for (int v : new int[] {-1, LEAST, MOST}) {
             is("draws(" + v + ", 1, 0)", x.draws(v, 1, 0), OUTSIDE);
             is("draws(1, " + v + ", 0)", x.draws(1, v, 0), OUTSIDE);
