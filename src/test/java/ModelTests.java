@@ -21,7 +21,7 @@ public final class ModelTests {
             Random random = new Random(run);
             RavelKnit x = new RavelKnit();
             Model m = new Model();
-            for (int calls = 0; calls < 500; ) {
+            for (int calls = 0; calls < 390; ) {
                 calls += step(x, m, random);
             }
         }
